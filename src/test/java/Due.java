@@ -1,0 +1,32 @@
+/** Counts and prints the answers that are not the ones due. */
+final class Due {
+    private static int wrong = 0;
+
+    private Due() {
+    }
+
+    static void same(String call, long got, long want) {
+        if (got != want) {
+            wrong++;
+            System.out.println(call + " answered " + got + ", due is " + want);
+        }
+    }
+
+    static void holds(String what, boolean held) {
+        if (!held) {
+            wrong++;
+            System.out.println("does not hold: " + what);
+        }
+    }
+
+    static boolean allRight() {
+        return wrong == 0;
+    }
+
+    static void end() {
+        if (wrong != 0) {
+            System.out.println(wrong + " answers are not as due");
+            System.exit(1);
+        }
+    }
+}

@@ -1,0 +1,95 @@
+/** One object under test, with the answers due from it. */
+final class Trial {
+    final EffectHandlers x;
+    private final String name;
+
+    Trial(String name, int maxTokens, int maxPerforms) {
+        this.name = name;
+        this.x = new EffectHandlers(maxTokens, maxPerforms);
+    }
+
+    /** A new object that holds the program and has compiled it. */
+    static Trial ready(String program) {
+        return ready(program, 16);
+    }
+
+    static Trial ready(String program, int maxPerforms) {
+        Trial trial = new Trial(program, 32, maxPerforms);
+        return trial.enter(program).compile(EffectHandlers.E_NONE, 0);
+    }
+
+    Trial enter(String program) {
+        for (int[] t : Tokens.read(program)) {
+            int before = x.tokenCount();
+            same("token " + t[0], x.token(t[0], t[1], t[2], t[3]), before + 1);
+            same("tokenKind", x.tokenKind(before), t[0]);
+        }
+        return this;
+    }
+
+    Trial compile(int code, int pos) {
+        same("compile()", x.compile(), code);
+        same("errorCode()", x.errorCode(), code);
+        same("errorPos()", x.errorPos(), pos);
+        return status(code == EffectHandlers.E_NONE ? EffectHandlers.ST_READY : EffectHandlers.ST_EDITING);
+    }
+
+    Trial status(int due) {
+        same("status()", x.status(), due);
+        return this;
+    }
+
+    Trial done(int result) {
+        same("run()", x.run(), EffectHandlers.ST_DONE);
+        return ended(EffectHandlers.ST_DONE, result, EffectHandlers.TRAP_NONE, -1);
+    }
+
+    Trial traps(int code, int pos) {
+        same("run()", x.run(), EffectHandlers.ST_TRAPPED);
+        return ended(EffectHandlers.ST_TRAPPED, 0, code, pos);
+    }
+
+    Trial ended(int status, int result, int trapCode, int trapPos) {
+        status(status);
+        same("result()", x.result(), result);
+        same("trapCode()", x.trapCode(), trapCode);
+        same("trapPos()", x.trapPos(), trapPos);
+        return this;
+    }
+
+    Trial emitted(int... values) {
+        same("outputCount()", x.outputCount(), values.length);
+        for (int i = 0; i < values.length; i++) {
+            same("output(" + i + ")", x.output(i), values[i]);
+        }
+        same("output behind the last", x.output(values.length), 0);
+        same("output(-1)", x.output(-1), 0);
+        same("output(MIN)", x.output(Integer.MIN_VALUE), 0);
+        same("output(MAX)", x.output(Integer.MAX_VALUE), 0);
+        return this;
+    }
+
+    Trial counts(int performs, int resumes) {
+        same("performCount()", x.performCount(), performs);
+        same("resumeCount()", x.resumeCount(), resumes);
+        return this;
+    }
+
+    /** The object is as reset leaves it. */
+    Trial fresh() {
+        same("tokenCount()", x.tokenCount(), 0);
+        same("tokenKind(0)", x.tokenKind(0), 0);
+        same("errorCode()", x.errorCode(), 0);
+        same("errorPos()", x.errorPos(), 0);
+        return notRun(EffectHandlers.ST_EDITING);
+    }
+
+    Trial notRun(int status) {
+        return ended(status, 0, EffectHandlers.TRAP_NONE, -1).emitted().counts(0, 0);
+    }
+
+    Trial same(String call, long got, long want) {
+        Due.same(name + " | " + call, got, want);
+        return this;
+    }
+}
