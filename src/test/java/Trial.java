@@ -60,7 +60,7 @@ final class Trial {
     Trial emitted(int... values) {
         same("outputCount()", x.outputCount(), values.length);
         for (int i = 0; i < values.length; i++) {
-            same("output(" + i + ")", x.output(i), values[i]);
+            same("an output", x.output(i), values[i]);
         }
         same("output behind the last", x.output(values.length), 0);
         same("output(-1)", x.output(-1), 0);
@@ -89,7 +89,9 @@ final class Trial {
     }
 
     Trial same(String call, long got, long want) {
-        Due.same(name + " | " + call, got, want);
+        if (got != want) {
+            Due.same(name + " | " + call, got, want);
+        }
         return this;
     }
 }
