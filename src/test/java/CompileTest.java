@@ -91,6 +91,8 @@ public final class CompileTest {
         error("LET:0 NUM:1 VAR:1", EffectHandlers.E_UNBOUND, 2);
         error("ADD LET:0 NUM:1 VAR:0 VAR:0", EffectHandlers.E_UNBOUND, 4);
         error("LET:0 LET:1 NUM:1 VAR:1 VAR:1", EffectHandlers.E_UNBOUND, 4);
+        error("EMIT ".repeat(31) + "VAR:0", EffectHandlers.E_UNBOUND, 31);
+        good("LET:0 NUM:1 " + "EMIT ".repeat(29) + "VAR:0");
         good("LET:7 NUM:1 VAR:7");
         good("LET:0 NUM:1 LET:1 VAR:0 ADD VAR:0 VAR:1");
         good("LET:0 NUM:1 LET:0 VAR:0 VAR:0");

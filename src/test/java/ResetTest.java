@@ -7,6 +7,8 @@ public final class ResetTest {
         inEveryState();
         keepsTheLimits();
         forgetsTheOldProgram();
+        forgetsTheOldStack();
+        forgetsTheOldScan();
         isTheOnlyWayBack();
         Due.end();
     }
@@ -48,6 +50,31 @@ public final class ResetTest {
         // The same shape as before up to the CASE, which now stands for another operation.
         trial.enter("HANDLE:0 NUM:9 EMIT PERFORM:0 NUM:1 RETURN:0,1 VAR:0 CASE:1,0,1 RESUME VAR:1 VAR:1 END");
         trial.compile(EffectHandlers.E_NONE, 0).traps(EffectHandlers.TRAP_UNHANDLED, 3).emitted().counts(1, 0);
+    }
+
+    private static void forgetsTheOldStack() {
+        // The trap leaves an ADD and a frame for operation 2 pending, which the next program must not meet.
+        Trial trial = Trial.ready("ADD NUM:100 HANDLE:0 NUM:1 ADD NUM:200 PERFORM:3 NUM:1 RETURN:0,1 VAR:0 CASE:2,0,1 NUM:9 END");
+        trial.traps(EffectHandlers.TRAP_UNHANDLED, 6);
+        trial.x.reset();
+        trial.enter("NUM:5").compile(EffectHandlers.E_NONE, 0).done(5);
+        trial.x.reset();
+        trial.enter("PERFORM:2 NUM:5").compile(EffectHandlers.E_NONE, 0).traps(EffectHandlers.TRAP_UNHANDLED, 0);
+    }
+
+    private static void forgetsTheOldScan() {
+        // The scan breaks off inside a binder and inside a clause; neither reaches into the next program.
+        Trial trial = new Trial("old scan", 32, 16).enter("EMIT LET:0 NUM:1 EMIT").compile(EffectHandlers.E_INCOMPLETE, 4);
+        trial.x.reset();
+        trial.enter("VAR:0").compile(EffectHandlers.E_UNBOUND, 0);
+        trial.x.reset();
+        trial.enter("EMIT VAR:0").compile(EffectHandlers.E_UNBOUND, 1);
+        trial.x.reset();
+        trial.enter("HANDLE:0 NUM:1 NUM:2 RETURN:0,1 VAR:0 CASE:4,0,1").compile(EffectHandlers.E_INCOMPLETE, 6);
+        trial.x.reset();
+        trial.enter("RESUME").compile(EffectHandlers.E_RESUME_OUTSIDE, 0);
+        trial.x.reset();
+        trial.enter("HANDLE:0 NUM:1 NUM:2 RETURN:0,1 VAR:0 CASE:4,0,1 VAR:0 END").compile(EffectHandlers.E_NONE, 0).done(2);
     }
 
     private static void isTheOnlyWayBack() {
