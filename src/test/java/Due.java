@@ -19,6 +19,19 @@ final class Due {
         }
     }
 
+    /** Runs the test of one sentence of the document, and names the sentence if the test finds it broken. */
+    static void sentence(String words, Runnable test) {
+        int before = wrong;
+        try {
+            test.run();
+        } catch (RuntimeException thrown) {
+            holds("no call throws, but: " + thrown, false);
+        }
+        if (wrong != before) {
+            System.out.println("  which breaks the sentence: " + words);
+        }
+    }
+
     static boolean allRight() {
         return wrong == 0;
     }

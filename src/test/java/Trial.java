@@ -1,5 +1,10 @@
+import java.util.Arrays;
+import java.util.function.IntSupplier;
+
 /** One object under test, with the answers due from it. */
 final class Trial {
+    private static final int FAR = 40;
+
     final EffectHandlers x;
     private final String name;
 
@@ -86,6 +91,47 @@ final class Trial {
 
     Trial notRun(int status) {
         return ended(status, 0, EffectHandlers.TRAP_NONE, -1).emitted().counts(0, 0);
+    }
+
+    /** The call gives this answer, and no reading method answers anything else after it than before. */
+    Trial unchangedBy(String call, IntSupplier made, int answer) {
+        int[] before = readings();
+        same(call, made.getAsInt(), answer);
+        int[] after = readings();
+        Due.holds(name + " | unchanged by " + call + ": " + Arrays.toString(before) + Arrays.toString(after),
+                Arrays.equals(before, after));
+        return this;
+    }
+
+    /** What every reading method answers, with indices from below 0 to above every capacity. */
+    int[] readings() {
+        int[] plain = {x.tokenCount(), x.errorCode(), x.errorPos(), x.status(), x.result(), x.trapCode(), x.trapPos(),
+            x.outputCount(), x.performCount(), x.resumeCount()};
+        int[] all = Arrays.copyOf(plain, plain.length + 2 * FAR);
+        for (int i = 0; i < FAR; i++) {
+            all[plain.length + i] = x.tokenKind(i - 2);
+            all[plain.length + FAR + i] = x.output(i - 2);
+        }
+        return all;
+    }
+
+    /** A token that is refused with this answer and leaves everything as it was. */
+    Trial refuses(int answer, int kind, int a, int b, int c) {
+        return unchangedBy("token(" + kind + ", " + a + ", " + b + ", " + c + ")", () -> x.token(kind, a, b, c), answer);
+    }
+
+    Trial holdsTokens(int due) {
+        return same("tokenCount()", x.tokenCount(), due);
+    }
+
+    Trial error(int code, int pos) {
+        same("errorCode()", x.errorCode(), code);
+        return same("errorPos()", x.errorPos(), pos);
+    }
+
+    Trial reset() {
+        x.reset();
+        return this;
     }
 
     Trial same(String call, long got, long want) {
