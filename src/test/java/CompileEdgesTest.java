@@ -12,8 +12,8 @@ public final class CompileEdgesTest {
 
     public static void main(String[] args) {
         Due.sentence("If status() != ST_EDITING, compile() answers REFUSED and changes nothing.", CompileEdgesTest::refused);
-        Due.sentence("At each token the first check that fails gives the error at position i, and the scan stops:",
-                CompileEdgesTest::firstCheckCounts);
+        Due.sentence("Otherwise the tokens are examined in index order i = 0, 1, .... At each token the first check that fails gives "
+                + "the error at position i, and the scan stops:", CompileEdgesTest::firstCheckCounts);
         Due.sentence("1. the tokens before i already form one complete E: E_TRAILING.", CompileEdgesTest::trailing);
         Due.sentence("2. the kind is not allowed where the grammar stands: E_UNEXPECTED.", CompileEdgesTest::unexpected);
         Due.sentence("Where an E must start, the kinds allowed are NUM VAR ADD SUB MUL LT EQ IF LET SEQ EMIT PERFORM RESUME HANDLE.",
@@ -193,6 +193,10 @@ public final class CompileEdgesTest {
             goesOn("HANDLE:0 NUM:1 " + HANDLE + same + ",0,0 NUM:1 END RETURN:0,1 NUM:2 " + same + ",0,0");
             goesOn("ADD " + HANDLE + same + ",0,0 NUM:1 END " + HANDLE + same + ",0,0");
             error(HANDLE + same + ",0,0 " + HANDLE + same + ",0,0 NUM:1 END " + same + ",0,0", EffectHandlers.E_DUP_CASE, 14);
+            // The two HANDLEs stand next to each other, the one in the I of the other.
+            for (int other = 0; other <= 7; other++) {
+                goesOn("HANDLE:0 " + HANDLE + "CASE:" + other + ",0,0 NUM:1 END NUM:2 RETURN:0,1 NUM:3 " + same + ",0,0");
+            }
         }
         // All eight are too few for a ninth.
         StringBuilder eight = new StringBuilder(HANDLE);

@@ -24,6 +24,8 @@ public final class RunEdgesTest {
         Due.sentence("If there is none: trap TRAP_UNHANDLED.", RunEdgesTest::unhandled);
         Due.sentence("Else let K be all of the stack above that frame (up to this PERFORM, with any frames in between), and q the "
                 + "frame's parameter.", RunEdgesTest::capturesAll);
+        Due.sentence("Then that CASE's C is evaluated in place of the HANDLE expression, with its argument variable = v and its "
+                + "parameter variable = q.", RunEdgesTest::startsTheClause);
         Due.sentence("Its value is the HANDLE's value (R is not applied to it).", RunEdgesTest::clauseValue);
         Due.sentence("Each such start of a C is a new activation of that CASE, owning r.", RunEdgesTest::newActivation);
         Due.sentence("Every evaluation done within that C belongs to that activation, including pieces of it that are captured into a "
@@ -194,6 +196,22 @@ public final class RunEdgesTest {
                 + "RETURN:0,1 NUM:-1 CASE:0,0,1 RESUME NUM:0 VAR:1 END").done(54).counts(2, 2);
         // Nothing below the frame is captured: the sum around the HANDLE is done once.
         Trial.ready("ADD NUM:1000 HANDLE:0 NUM:4 PERFORM:0 NUM:1 RETURN:0,1 VAR:0 CASE:0,0,1 ADD VAR:0 RESUME VAR:1 VAR:1 END").done(1005);
+    }
+
+    private static void startsTheClause() {
+        // Where the HANDLE stands: with the variables bound there, not those around the PERFORM, and without its frame.
+        Trial.ready("LET:4 NUM:1 HANDLE:0 NUM:0 LET:4 NUM:2 PERFORM:0 NUM:3 RETURN:0,1 VAR:0 CASE:0,0,1 VAR:4 END").done(1);
+        Trial.ready("LET:4 NUM:1 HANDLE:0 NUM:0 HANDLE:0 NUM:0 LET:4 NUM:2 PERFORM:0 NUM:3 RETURN:4,5 VAR:4 END RETURN:0,1 VAR:0 "
+                + "CASE:0,0,1 VAR:4 END").done(1);
+        Trial.ready("HANDLE:0 NUM:0 PERFORM:0 NUM:1 RETURN:0,1 VAR:0 CASE:0,0,1 PERFORM:0 NUM:2 END")
+                .traps(EffectHandlers.TRAP_UNHANDLED, 7).counts(2, 0);
+        // v and q at their edges, and q of the frame that was found, not of one passed over.
+        for (int edge : new int[] {MIN, -1, 0, 1, Integer.MAX_VALUE}) {
+            Trial.ready("HANDLE:0 NUM:" + edge + " PERFORM:0 NUM:5 RETURN:0,1 NUM:-1 CASE:0,0,1 VAR:1 END").done(edge);
+            Trial.ready("HANDLE:0 NUM:5 PERFORM:0 NUM:" + edge + " RETURN:0,1 NUM:-1 CASE:0,0,1 VAR:0 END").done(edge);
+            Trial.ready("HANDLE:0 NUM:" + edge + " HANDLE:0 NUM:7 PERFORM:0 NUM:5 RETURN:0,1 NUM:-1 END RETURN:0,1 NUM:-1 "
+                    + "CASE:0,0,1 VAR:1 END").done(edge);
+        }
     }
 
     private static void clauseValue() {

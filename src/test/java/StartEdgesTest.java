@@ -89,6 +89,11 @@ public final class StartEdgesTest {
             trial.compile(EffectHandlers.E_INCOMPLETE, 0);
             trial.reset().fresh();
         }
+        // What the old tokens bound is gone with them, also where the scan broke off in the midst of it.
+        Trial open = new Trial("an open LET", 32, 16).enter("ADD NUM:1 LET:0 NUM:2 EMIT").compile(EffectHandlers.E_INCOMPLETE, 5);
+        open.reset().enter("EMIT VAR:0").compile(EffectHandlers.E_UNBOUND, 1);
+        open.reset().enter("ADD NUM:1 HANDLE:0 NUM:2 NUM:3 RETURN:0,1 NUM:4 CASE:0,0,1").compile(EffectHandlers.E_INCOMPLETE, 8);
+        open.reset().enter("EMIT RESUME").compile(EffectHandlers.E_RESUME_OUTSIDE, 1);
     }
 
     private static void keepsTheLimits() {
