@@ -19,6 +19,7 @@ public final class ModelTest {
         for (int i = 0; i < PROGRAMS && Due.allRight(); i++) {
             compare(thrown(dice), 16);
         }
+        heaviest();
         // A test that never meets an outcome does not test it.
         for (int code = 0; code < errorsSeen.length; code++) {
             Due.holds("error " + code + " was met often: " + errorsSeen[code], errorsSeen[code] > 50);
@@ -28,6 +29,19 @@ public final class ModelTest {
         }
         Due.holds("some run performs 16 times, not only " + deepestPerforms, deepestPerforms == 16);
         Due.end();
+    }
+
+    /** All 32 tokens shared out between the performs and a clause that leaves much pending or bound at each of them. */
+    private static void heaviest() {
+        String[] pending = {"ADD VAR:0 ", "LET:2 VAR:1 ", "LET:0 ADD VAR:0 VAR:1 ", "SEQ IF VAR:0 EMIT VAR:1 VAR:0 ", "PERFORM:2 ", "EMIT "};
+        for (String part : pending) {
+            int length = Tokens.read(part).length;
+            for (int performs = 0; performs <= 17; performs++) {
+                String clause = part.repeat((22 - performs) / length) + "RESUME VAR:1 VAR:0 ";
+                compare(Tokens.read("HANDLE:0 NUM:1 " + "PERFORM:0 ".repeat(performs) + "NUM:3 RETURN:0,1 VAR:0 CASE:0,0,1 "
+                        + clause + "END"), 16);
+            }
+        }
     }
 
     private static int[][] damaged(int[][] rows, Dice dice) {
