@@ -19,7 +19,7 @@ public final class ModelTest {
         for (int i = 0; i < PROGRAMS && Due.allRight(); i++) {
             compare(thrown(dice), 16);
         }
-        heaviest();
+        heavy();
         // A test that never meets an outcome does not test it.
         for (int code = 0; code < errorsSeen.length; code++) {
             Due.holds("error " + code + " was met often: " + errorsSeen[code], errorsSeen[code] > 50);
@@ -32,7 +32,7 @@ public final class ModelTest {
     }
 
     /** All 32 tokens shared out between the performs and a clause that leaves much pending or bound at each of them. */
-    private static void heaviest() {
+    private static void heavy() {
         String[] pending = {"ADD VAR:0 ", "LET:2 VAR:1 ", "LET:0 ADD VAR:0 VAR:1 ", "SEQ IF VAR:0 EMIT VAR:1 VAR:0 ", "PERFORM:2 ", "EMIT "};
         for (String part : pending) {
             int length = Tokens.read(part).length;
